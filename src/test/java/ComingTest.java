@@ -102,6 +102,7 @@ public final class ComingTest {
         check.due("nobody", new RankWheels().fastest(), 60);
         check.due("one alone", Check.told("m 1 1;").fastest(), 60);
         check.due("legs of 1", Check.told("m 1 1; m 1 1;").fastest(), 1);
+        check.due("a leg of 2", Check.told("m 1 1; m 2 1;").fastest(), 2);
         check.due("the one within wants nothing", Check.told("m 1 1; m 60 1;").fastest(), 60);
         // PLACE 1 of 2 wants half, cut: 21 at 43
         RankWheels x = Check.told("m 60 1; m 21 1; m 50 1; p 7;");
@@ -162,6 +163,9 @@ public final class ComingTest {
         check.due("00011", x.inStep(), Check.NONE);
         check.due("nothing is done", x.now(0), 0);
         check.due("the FEET stay", x.now(6), 24);
+        RankWheels two = Check.told("m 9 1; m 9 1;");
+        two.hops(1);
+        check.due("two change for ever", two.inStep(), Check.NONE);
     }
 
     private static void behind() {

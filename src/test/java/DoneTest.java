@@ -10,6 +10,8 @@ public final class DoneTest {
         legsAndNought();
         inchesAtTheEnds();
         feet();
+        sevenMen();
+        pacesAtMost();
         nobodyAndOne();
         slipping();
         hopping();
@@ -94,6 +96,39 @@ public final class DoneTest {
         check.due("11110", x.now(6), 15);
         x.wheels();
         check.due("11111", x.now(6), 31);
+        RankWheels two = Check.told("m 9 9; m 9 9;");
+        two.hops(0);
+        two.wheels();
+        check.due("two unlike each other both change", two.now(6), 2);
+    }
+
+    private static void sevenMen() {
+        RankWheels x = Check.told("m 60 1;m 60 1;m 60 1;m 60 1;m 60 1;m 60 1;m 30 1;p 60;e 0;w 0;");
+        x.hops(6);
+        check.due("seven: FEET", x.now(6), 64);
+        check.due("seven: wheels()", x.wheels(), 30);
+        inches("seven", x, 0, 0, 0, 0, 0, 0, -30);
+        check.due("seven: FEET changed", x.now(6), 0);
+        check.due("seven: its PLACE", x.now(5), 5);
+        check.due("seven: in line", x.now(7), 6);
+        check.due("seven: swaps(0, 6)", x.swaps(0, 6), 6);
+        check.due("seven: man(6, 2)", x.man(6, 2), 0);
+    }
+
+    /** So many calls are more than an object is made for, but the bound is told. */
+    private static void pacesAtMost() {
+        RankWheels x = Check.told(THREE);
+        for (int i = 0; i < 9999; i++) {
+            x.wheels();
+        }
+        check.due("PACES", x.now(0), 9999);
+        x.slips(1, 3);
+        check.due("it is PACE 9999", x.wheels(), Check.STATE);
+        check.due("nothing changes", x.place(1, 1), -3);
+        check.due("PACES still", x.now(0), 9999);
+        check.due("undo() of the slip", x.undo(), 9);
+        check.due("undo() of a PACE", x.undo(), 8);
+        check.due("wheels() again", x.wheels(), 0);
     }
 
     private static void nobodyAndOne() {

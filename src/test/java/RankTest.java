@@ -71,6 +71,8 @@ public final class RankTest {
     private static void tellings() {
         telling("", 0, 0, 30, 5, 2);
         telling("   ", 0, 0, 30, 5, 2);
+        telling(" ".repeat(120), 0, 0, 30, 5, 2);
+        telling("m 60 98" + " ".repeat(112) + ";", 1, 1, 30, 5, 2);
         telling("m1 1;", 1, 1, 30, 5, 2);
         telling("m60 99;", 1, 1, 30, 5, 2);
         telling("  m  60   99  ;  ", 1, 1, 30, 5, 2);
@@ -151,6 +153,12 @@ public final class RankTest {
         fault("m 61", 2);
         fault("m 1 1; p 61", 9);
         fault("q", 0);
+        // texts as long as may be
+        fault("m" + "1".repeat(119), 1);
+        fault("m".repeat(120), 0);
+        fault(" ".repeat(119) + "m", 120);
+        fault("m 1" + " ".repeat(117), 120);
+        fault("m 1" + " ".repeat(116) + "1", 120);
         // the first fault, though a later byte begins no token
         fault("m 0 1; #", 2);
         fault("m 1 1; # m 0", 7);
