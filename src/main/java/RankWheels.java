@@ -10,6 +10,8 @@ public final class RankWheels {
     private static final int MOST_TILL_DRESSED = 300, MOST_TILL_IN_STEP = 20, MOST_LOOK = 60;
     private static final int MOST_GAP = 99, MOST_BEHIND = 60, MOST_POST = 20, MOST_BLAME = 40;
     private static final int FAULT_BASE = -2000;
+    /** Above all that MEN can WANT above their LEGS, and above how far apart their HEIGHTS can be. */
+    private static final int UNORDERED = 1000000;
     /** In place of a PLACE where no post stands in the way. */
     private static final int NO_POST = -1;
     private static final int BULGE_ASKED = -1, ABOVE_ASKED = -1, APART_ASKED = -2;
@@ -790,8 +792,8 @@ public final class RankWheels {
 
         void arrange(int itsPace) {
             pace = itsPace;
-            leastAbove = Integer.MAX_VALUE;
-            leastApart = Integer.MAX_VALUE;
+            leastAbove = UNORDERED;
+            leastApart = UNORDERED;
             fillFrom(this, 0, 0, 0, 0);
         }
 

@@ -2,14 +2,20 @@
 final class Check {
     static final int BAD = -1001, STATE = -1002, FULL = -1003, NONE = -1009, NO = -1000000;
 
+    private String asking = "";
     private int asked;
     private int wrong;
+
+    /** Which promise the answers from here on are asked for. */
+    void promise(int number) {
+        asking = "promise " + number + ": ";
+    }
 
     void due(String call, long got, long want) {
         asked++;
         if (got != want) {
             wrong++;
-            System.out.println(call + " answered " + got + ", due is " + want);
+            System.out.println(asking + call + " answered " + got + ", due is " + want);
         }
     }
 
