@@ -137,6 +137,9 @@ public final class ComingEdgesTest {
         // only all of what is seen, of what is felt, of both; then something between
         mix("EYE 10", at(TWO, 1, 0), 110, 1);
         mix("ELBOW 10", at(TWO, 0, 1), 10, 1);
+        // whoever sees, or feels, a tenth of it beside him would go back by 2
+        mix("EYE 0 alone", at(THREE, 0, 0, 20), 10, 1);
+        mix("ELBOW 0 alone", at(THREE, 20, 0, 0), 110, 1);
         mix("both 10", at(THREE + "p 1;", 20, 0, 12), 120, 1);
         mix("EYE 5, ELBOW 8", at("m 60 1;m 60 1;m 8 1;p 2;", 1, 8, 0), 63, 2);
         mix("299", inchAPace(299), 10, 299);
@@ -333,6 +336,17 @@ public final class ComingEdgesTest {
         ahead.minds(0, 0);
         check.due("19 ahead, behind(18)", ahead.behind(18), 0);
         check.due("19 ahead, behind(19)", ahead.behind(19), 1);
+        // 25 10 25, and so it stays: 10 are above 9, so nothing of the 15 that he WANTS is needed
+        RankWheels more = at(THREE + "p 30;e 10;w 10;", 0, 10);
+        for (int i = 0; i < 4; i++) {
+            more.wheels();
+        }
+        more.minds(0, 0);
+        check.due("10 ahead, behind(8)", more.behind(8), 0);
+        check.due("10 ahead, behind(9)", more.behind(9), 0);
+        check.due("10 ahead, behind(10)", more.behind(10), 1);
+        check.due("10 ahead, behind(24)", more.behind(24), 1);
+        check.due("10 ahead, behind(25)", more.behind(25), 2);
     }
 
     // ---- promise 22

@@ -195,12 +195,17 @@ public final class KindsEdgesTest {
         full.keep(0);
         check.due("back(1) of an empty past", full.back(1), 0);
         check.due("none may be UNDONE", full.undo(), Check.STATE);
+        // deeds of another time, which are not the IMAGE's
+        for (int n = 1; n <= 12; n++) {
+            full.slips(2, 99);
+        }
         check.due("back(0) of a full past", full.back(0), 0);
         check.due("ten may be UNDONE", full.count(2), 10);
         for (int left = 9; left >= 0; left--) {
             check.due("undo()", full.undo(), left);
             int still = left + 2;
             check.due("INCHES", full.place(1, 1), -still * (still + 1) / 2);
+            check.due("INCHES of another time", full.place(2, 1), 0);
         }
         RankWheels x = Edges.busyThree();
         x.saw(0, 5, 5);
