@@ -8,6 +8,7 @@ import java.util.Arrays;
 import java.util.List;
 import java.util.Set;
 import java.util.TreeSet;
+import java.util.regex.Matcher;
 import java.util.regex.Pattern;
 import java.util.stream.Collectors;
 
@@ -26,6 +27,9 @@ public final class FaceTest {
     private static final List<String> LEFT_OUT = List.of("\\bthrow\\b", "\\btry\\b", "\\bcatch\\b", "\\bsynchronized\\b",
             "\\bassert\\b", "\\bimport\\b", "\\bpackage\\b", "->", "::", "Exact\\b", "\\bstatic\\s*\\{", "\\bObject\\b",
             "\\bnull\\b", "\\bSystem\\.(?!arraycopy\\b)", "@", "\"", "\\bdouble\\b", "\\bfloat\\b");
+
+    /** All of the library that the class uses; rule 4 lists it. */
+    private static final Set<String> LIBRARY = Set.of("Math.max", "Math.min", "Math.abs", "System.arraycopy");
 
     public static void main(String[] args) throws Exception {
         constants();
@@ -61,9 +65,12 @@ public final class FaceTest {
             }
         }
         check.holds("methods " + found, found.equals(FACE));
+        for (Class<?> c : RankWheels.class.getDeclaredClasses()) {
+            Arrays.stream(c.getDeclaredMethods()).map(Method::getName).forEach(hidden::add);
+        }
         for (String header : FACE) {
             String name = header.substring(header.indexOf(' ') + 1, header.indexOf('('));
-            check.holds("no private method is named " + name, !hidden.contains(name));
+            check.holds("no method within is named " + name, !hidden.contains(name));
         }
         Set<String> constants = new TreeSet<>();
         for (Field f : RankWheels.class.getDeclaredFields()) {
@@ -110,6 +117,11 @@ public final class FaceTest {
         for (String word : LEFT_OUT) {
             check.holds("no " + word, !Pattern.compile(word).matcher(code).find());
         }
+        Matcher used = Pattern.compile("\\b[A-Z][A-Za-z]*[a-z]\\.\\w+").matcher(code);
+        while (used.find()) {
+            check.holds(used.group() + " is in the library", LIBRARY.contains(used.group()));
+        }
+        check.holds("signs 1 to 127 alone", source.chars().allMatch(c -> c >= 1 && c <= 127));
         int begun = 0;
         String[] lines = source.split("\n");
         for (int i = 0; i < lines.length; i++) {

@@ -24,6 +24,11 @@ public final class RankEdgesTest {
         everyByteBehindANumber();
         everyByteBehindALetter();
         everyByteBehindAMan();
+        everyByteForANumber("m ", " 9;", 1);
+        everyByteForANumber("m 9 ", ";", 1);
+        everyByteForANumber("p ", ";", 1);
+        everyByteForANumber("e ", ";", 0);
+        everyByteForANumber("w ", ";", 0);
         endsTooEarly();
         firstFaultCounts();
         longestTexts();
@@ -328,6 +333,19 @@ public final class RankEdgesTest {
                 fault(text, 4);
             } else {
                 fault(text, c >= 'a' && c <= 'z' ? 0 : 1);
+            }
+        }
+    }
+
+    /** A letter stands for no NUMBER, whatever its byte is: a, b and c are 97, 98 and 99. */
+    private static void everyByteForANumber(String ahead, String behind, int least) {
+        for (int c = 0; c < 256; c++) {
+            String text = ahead + (char) c + behind;
+            if (c >= '0' + least && c <= '9') {
+                tells(text, 1);
+            } else {
+                // without it the item ends a number too early, at its ;
+                fault(text, c == ' ' ? text.length() - 1 : ahead.length());
             }
         }
     }
