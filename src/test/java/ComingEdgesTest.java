@@ -77,7 +77,21 @@ public final class ComingEdgesTest {
         RankWheels y = inchAPace(301);
         y.wheels();
         check.due("a pace on, within 300", y.dressed(), 300);
+        anInchAhead();
         edges.onlyLooks("dressed()", RankWheels::dressed);
+    }
+
+    /** INCHES are 0 0 1 and FEET too: what is in line is told by INCHES alone. */
+    private static void anInchAhead() {
+        RankWheels x = at(THREE + "p 30;e 10;w 10;", 0, 1);
+        x.wheels(); // 0 1 -1
+        x.minds(0, 10);
+        x.wheels(); // 0 0 1
+        x.hops(2);
+        check.due("an inch ahead", x.place(2, 1), 1);
+        check.due("on the right foot", x.now(6), 4);
+        check.due("an inch ahead: dressed()", x.dressed(), 1);
+        check.due("an inch ahead: mix(1)", x.mix(1), 1);
     }
 
     // ---- promise 16
